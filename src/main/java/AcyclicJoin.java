@@ -34,8 +34,10 @@ public final class AcyclicJoin {
     private static final int NO_SLOT = -1;
 
     // An assignment is a number of six values with variable 0 in the highest bits, so that
-    // the order of the numbers is the lexicographic order of the assignments.
+    // the order of the numbers is the lexicographic order of the assignments. There are six
+    // whatever V is: the missing variables are never covered, so they are 0 in every answer.
     private static final int ASSIGNMENTS = 4096;
+    private static final int FIRST_SHIFT = 10;
 
     // A cursor's position is the assignment it is on, or the number just outside their range.
     private static final int BEFORE_FIRST = -1;
@@ -261,7 +263,7 @@ public final class AcyclicJoin {
         }
         // A greater answer that differs in 0 .. variable has a greater number made of these
         // variables alone, and the least assignment with the next such number has zeros behind it.
-        int shift = shiftOf(variable);
+        int shift = FIRST_SHIFT - variable * VALUE_BITS;
         int prefix = position >> shift;
         return moveToAnswerFrom(cursor, (prefix + 1) << shift);
     }
@@ -321,14 +323,8 @@ public final class AcyclicJoin {
         return size;
     }
 
-    // The layout is that of six variables whatever V is: the missing ones are never covered,
-    // so they are 0 in every answer and change neither the order nor the number of answers.
-    private static int shiftOf(int variable) {
-        return (MOST_VARIABLES - 1 - variable) * VALUE_BITS;
-    }
-
     private static int valueIn(int assignment, int variable) {
-        int shift = shiftOf(variable);
+        int shift = FIRST_SHIFT - variable * VALUE_BITS;
         return (assignment >> shift) & VALUE_MASK;
     }
 
