@@ -53,7 +53,8 @@ public final class AcyclicJoin {
     private int atomCount;
     private int currentPhase;
 
-    // Found by compile; no call reads them while the phase is LOADING, so they may be stale there.
+    // Found by compile, and stale elsewhere: no call reads the residue in LOADING, nor the answers
+    // and the live rows outside READY.
     private int residueMask;
     private final boolean[] answers = new boolean[ASSIGNMENTS];
     private final boolean[] liveRows = new boolean[SLOTS];
