@@ -87,5 +87,28 @@ public final class Promise06Test {
         join.compile();
         Due.same("live(1) with its partner", join.live(1), 3);
         Due.same("count", join.count(), 5);
+        for (int atom = 0; atom < 6; atom++) {
+            for (int row = 0; row < 64; row++) {
+                liveThenDangling(atom, row & 3, row >> 2 & 3, row >> 4);
+            }
+        }
+    }
+
+    /** The row is live in each of six atoms, until it is dropped from the one behind this. */
+    private static void liveThenDangling(int atom, int x, int y, int z) {
+        AcyclicJoin join = Queries.of(7, 7, 7, 7, 7, 7);
+        for (int each = 0; each < 6; each++) {
+            join.addRow(each, x, y, z);
+        }
+        join.compile();
+        String row = "row " + x + " " + y + " " + z + " of atom " + atom;
+        Due.same(row + " at first", join.rowState(atom, x, y, z), AcyclicJoin.LIVE);
+        join.reopen();
+        join.dropRow((atom + 1) % 6, x, y, z);
+        join.compile();
+        Due.same(row + " later", join.rowState(atom, x, y, z), AcyclicJoin.DANGLING);
+        Due.same("live later", join.live(atom), 0);
+        Due.same("count later", join.count(), 0);
+        Due.same("next later", join.next(0), AcyclicJoin.AT_END);
     }
 }

@@ -27,32 +27,12 @@ public final class Promise15Test {
     }
 
     private static void order() {
-        int[] bad = {Integer.MIN_VALUE, -1, 4, Integer.MAX_VALUE};
-        for (Queries.State state : Queries.join(Queries.LOADING, Queries.CYCLIC)) {
-            for (int wrong : bad) {
-                Due.same(state.name() + ": bad cursor", state.make().skip(wrong, 0), AcyclicJoin.WRONG_PHASE);
-                Due.same(state.name() + ": bad variable", state.make().skip(0, wrong), AcyclicJoin.WRONG_PHASE);
-                Due.same(state.name() + ": both bad", state.make().skip(wrong, wrong), AcyclicJoin.WRONG_PHASE);
-            }
-        }
-        for (int wrong : bad) {
-            Due.same("both bad", Queries.at(6, 6).skip(wrong, wrong), AcyclicJoin.BAD);
-            Due.same("bad cursor, others at the end", Queries.at(6, 6).skip(wrong, 0), AcyclicJoin.BAD);
-            Due.same("a bad variable before AT_END", Queries.at(6, 6).skip(0, wrong), AcyclicJoin.BAD);
-            Due.same("a bad variable before AT_END", Queries.at(6, 6).skip(1, wrong), AcyclicJoin.BAD);
-        }
+        Refused.comesInOrder("skip", AcyclicJoin::skip);
         Due.same("WRONG_PHASE before AT_END", Queries.reopened(Queries.at(6, 6)).skip(0, 0), AcyclicJoin.WRONG_PHASE);
     }
 
     private static void wrongPhase() {
-        for (int cursor = 0; cursor < 2; cursor++) {
-            int moved = cursor;
-            for (int variable = 0; variable < 4; variable++) {
-                int last = variable;
-                Refused.inWrongPhase("skip(" + cursor + ", " + variable + ")",
-                        Queries.join(Queries.LOADING, Queries.CYCLIC), Queries.READY, join -> join.skip(moved, last));
-            }
-        }
+        Refused.inWrongPhase("skip", AcyclicJoin::skip);
     }
 
     private static void badCursor() {

@@ -16,33 +16,13 @@ public final class Promise17Test {
     }
 
     private static void order() {
-        int[] bad = {Integer.MIN_VALUE, -1, 4, Integer.MAX_VALUE};
-        for (Queries.State state : Queries.join(Queries.LOADING, Queries.CYCLIC)) {
-            for (int wrong : bad) {
-                Due.same(state.name() + ": bad cursor", state.make().value(wrong, 0), AcyclicJoin.WRONG_PHASE);
-                Due.same(state.name() + ": bad variable", state.make().value(0, wrong), AcyclicJoin.WRONG_PHASE);
-                Due.same(state.name() + ": both bad", state.make().value(wrong, wrong), AcyclicJoin.WRONG_PHASE);
-            }
-        }
-        for (Queries.State state : Queries.READY) {
-            for (int wrong : bad) {
-                Due.same(state.name() + ": both bad", state.make().value(wrong, wrong), AcyclicJoin.BAD);
-                Due.same(state.name() + ": bad cursor first", state.make().value(wrong, 0), AcyclicJoin.BAD);
-                Due.same(state.name() + ": bad variable first", state.make().value(0, wrong), AcyclicJoin.BAD);
-                Due.same(state.name() + ": bad variable first", state.make().value(1, wrong), AcyclicJoin.BAD);
-            }
-        }
+        Refused.comesInOrder("value", AcyclicJoin::value);
+        Due.same("WRONG_PHASE before AT_START", Queries.five().value(0, 0), AcyclicJoin.WRONG_PHASE);
+        Due.same("WRONG_PHASE before AT_END", Queries.reopened(Queries.at(6, 6)).value(0, 0), AcyclicJoin.WRONG_PHASE);
     }
 
     private static void wrongPhase() {
-        for (int cursor = 0; cursor < 2; cursor++) {
-            int asked = cursor;
-            for (int variable = 0; variable < 4; variable++) {
-                int of = variable;
-                Refused.inWrongPhase("value(" + cursor + ", " + variable + ")",
-                        Queries.join(Queries.LOADING, Queries.CYCLIC), Queries.READY, join -> join.value(asked, of));
-            }
-        }
+        Refused.inWrongPhase("value", AcyclicJoin::value);
     }
 
     private static void badCursor() {

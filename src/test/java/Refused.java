@@ -34,6 +34,39 @@ final class Refused {
         }
     }
 
+    /** Every cursor with every variable of five, where the call wants READY. */
+    static void inWrongPhase(String name, CallWithTwo call) {
+        for (int cursor = 0; cursor < 2; cursor++) {
+            for (int variable = 0; variable < 4; variable++) {
+                int first = cursor;
+                int second = variable;
+                inWrongPhase(name + "(" + cursor + ", " + variable + ")",
+                        Queries.join(Queries.LOADING, Queries.CYCLIC), Queries.READY,
+                        join -> call.on(join, first, second));
+            }
+        }
+    }
+
+    /** In the wrong phase WRONG_PHASE comes before BAD, and in READY BAD before what the cursor's place says. */
+    static void comesInOrder(String name, CallWithTwo call) {
+        for (int bad : new int[] {Integer.MIN_VALUE, -1, 4, Integer.MAX_VALUE}) {
+            for (Queries.State state : Queries.join(Queries.LOADING, Queries.CYCLIC)) {
+                hasBad(state, name, call, bad, AcyclicJoin.WRONG_PHASE);
+            }
+            for (Queries.State state : Queries.READY) {
+                hasBad(state, name, call, bad, AcyclicJoin.BAD);
+            }
+        }
+    }
+
+    private static void hasBad(Queries.State state, String name, CallWithTwo call, int bad, int due) {
+        String what = state.name() + ": " + name;
+        Due.same(what + " of a bad cursor", call.on(state.make(), bad, 0), due);
+        Due.same(what + " of a bad variable", call.on(state.make(), 0, bad), due);
+        Due.same(what + " of a bad variable", call.on(state.make(), 1, bad), due);
+        Due.same(what + " of both bad", call.on(state.make(), bad, bad), due);
+    }
+
     /** BAD for the atom indexes that are bad and for no other, with every number of atoms. */
     static void badAtoms(String name, boolean compiled, CallWithOne call) {
         for (int atoms = compiled ? 1 : 0; atoms <= 6; atoms++) {
