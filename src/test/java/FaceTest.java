@@ -2,8 +2,6 @@ import java.lang.reflect.Constructor;
 import java.lang.reflect.Field;
 import java.lang.reflect.Method;
 import java.lang.reflect.Modifier;
-import java.nio.file.Files;
-import java.nio.file.Path;
 import java.util.Arrays;
 import java.util.HashSet;
 import java.util.Map;
@@ -12,7 +10,7 @@ import java.util.TreeMap;
 import java.util.regex.Matcher;
 import java.util.regex.Pattern;
 
-/** The public face and constants of the document, and the rules of LANGUAGE.md that can be seen from outside. */
+/** The public face and the constants of the document, and that there are no others. */
 public final class FaceTest {
     private static final Object[][] CONSTANTS = {
         {"OK", 0}, {"MOVED", 1},
@@ -26,16 +24,12 @@ public final class FaceTest {
             Map.entry("reopen", 0), Map.entry("phase", 0), Map.entry("scope", 1), Map.entry("residue", 0),
             Map.entry("residueOf", 1), Map.entry("rowState", 4), Map.entry("live", 1), Map.entry("count", 0),
             Map.entry("next", 1), Map.entry("skip", 2), Map.entry("rewind", 1), Map.entry("value", 2)));
-    private static final Set<Class<?>> NUMBERS = Set.of(
-            int.class, long.class, short.class, byte.class, char.class, boolean.class, void.class,
-            int[].class, long[].class, short[].class, byte[].class, char[].class, boolean[].class);
 
     public static void main(String[] args) throws Exception {
         constantsAreThoseOfTheDocument();
         classAndConstructor();
         methodsAreThoseOfTheDocument();
-        fieldsKeepToTheRules();
-        sourceKeepsToTheRules(Files.readString(Path.of("src/main/java/AcyclicJoin.java")));
+        listsAreThoseOfTheDocument();
         Due.end();
     }
 
@@ -69,12 +63,6 @@ public final class FaceTest {
         Set<String> seen = new HashSet<>();
         for (Method method : AcyclicJoin.class.getDeclaredMethods()) {
             String name = method.getName();
-            Due.yes("at most seven parameters: " + name, method.getParameterCount() <= 7);
-            Due.yes("no array answered: " + name, !method.getReturnType().isArray());
-            Due.yes("type of " + name, NUMBERS.contains(method.getReturnType()));
-            for (Class<?> type : method.getParameterTypes()) {
-                Due.yes("parameter types of " + name, NUMBERS.contains(type));
-            }
             if (!METHODS.containsKey(name)) {
                 Due.yes("private: " + name, Modifier.isPrivate(method.getModifiers()));
                 continue;
@@ -90,56 +78,24 @@ public final class FaceTest {
         Due.same("methods of the document", seen.size(), METHODS.size());
     }
 
-    private static void fieldsKeepToTheRules() {
-        int kept = 0;
-        for (Field field : AcyclicJoin.class.getDeclaredFields()) {
-            Due.yes("type of " + field.getName(), NUMBERS.contains(field.getType()));
-            if (Modifier.isStatic(field.getModifiers())) {
-                boolean number = field.getType() == int.class || field.getType() == long.class;
-                Due.yes("constant " + field.getName(), number && Modifier.isFinal(field.getModifiers()));
-            } else {
-                kept++;
-            }
+    /** The lists above are those of the document, so they can't fall behind it. */
+    private static void listsAreThoseOfTheDocument() {
+        Map<String, Integer> constants = new TreeMap<>();
+        Map<String, Integer> methods = new TreeMap<>();
+        Matcher constant = Pattern.compile("public static final int (\\w+) = (-?\\d+);").matcher(Sentences.document());
+        while (constant.find()) {
+            constants.put(constant.group(1), Integer.valueOf(constant.group(2)));
         }
-        Due.yes("at most forty fields", kept <= 40);
-    }
-
-    private static void sourceKeepsToTheRules(String source) {
-        String code = source.replaceAll("(?s)/\\*.*?\\*/", " ").replaceAll("//[^\n]*", " ");
-        String[] words = {"package", "import", "throw", "throws", "try", "catch", "synchronized", "assert",
-            "instanceof", "null", "float", "double", "String", "Math", "Integer", "System", "Arrays", "Object",
-            "enum", "record", "interface", "var", "protected", "native"};
-        for (String word : words) {
-            Due.yes("no " + word, !Pattern.compile("\\b" + word + "\\b").matcher(code).find());
+        Matcher method = Pattern.compile("public int (\\w+)\\((.*)\\);").matcher(Sentences.document());
+        while (method.find()) {
+            String parameters = method.group(2);
+            methods.put(method.group(1), parameters.isEmpty() ? 0 : parameters.split(",").length);
         }
-        Due.yes("no lambda or method reference", !code.contains("->") && !code.contains("::"));
-        Due.yes("no string", !code.contains("\""));
-        // Every array is made where its field is declared.
-        Matcher making = Pattern.compile("\\bnew\\b").matcher(code);
-        Matcher inField = Pattern.compile("private final \\w+\\[\\] \\w+ = new \\w+\\[[A-Z_]+\\];").matcher(code);
-        Due.same("arrays made outside fields", making.results().count(), inField.results().count());
-        for (String line : code.split("\n")) {
-            Due.yes("no call in a call's arguments: " + line.trim(), !callsInsideArguments(line));
+        Map<String, Integer> listed = new TreeMap<>();
+        for (Object[] each : CONSTANTS) {
+            listed.put((String) each[0], (Integer) each[1]);
         }
-    }
-
-    private static boolean callsInsideArguments(String line) {
-        Set<String> notCalls = Set.of("if", "for", "while", "switch", "return");
-        Matcher call = Pattern.compile("\\b(\\w+)\\(").matcher(line);
-        while (call.find()) {
-            if (notCalls.contains(call.group(1))) {
-                continue;
-            }
-            int depth = 1;
-            int end = call.end();
-            while (end < line.length() && depth > 0) {
-                depth += line.charAt(end) == '(' ? 1 : line.charAt(end) == ')' ? -1 : 0;
-                end++;
-            }
-            if (Pattern.compile("\\w\\(").matcher(line.substring(call.end(), end)).find()) {
-                return true;
-            }
-        }
-        return false;
+        Due.yes("constants of the document " + constants, constants.equals(listed));
+        Due.yes("methods of the document " + methods, methods.equals(METHODS));
     }
 }
